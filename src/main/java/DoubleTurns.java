@@ -59,8 +59,8 @@ public final class DoubleTurns {
     private final Past past = new Past();
     private final Group group = new Group();
     private final Subgroup subgroup = new Subgroup();
-    private final Splitting splitting = new Splitting();
     private final Characters characters = new Characters();
+    private final Splitting splitting = new Splitting(characters.field);
     private final Graph graph = new Graph();
     private final Powers powers = new Powers();
     private final int[] asked = new int[NUMBERS];
@@ -227,13 +227,16 @@ public final class DoubleTurns {
     public int of(int cls, int what) throws NoSuchElementException, IllegalArgumentException {
         needIndex(cls, group.classes);
         needBetween(what, 0, 6);
+        if (what == 4) {
+            needCharacters();
+        }
         int least = at(group.leasts, cls);
         switch (what) {
             case 0: return at(group.sizes, cls);
             case 1: return least;
             case 2: return at(group.orders, least);
             case 3: return group.inverseClass(cls);
-            case 4: return naturalOf(cls);
+            case 4: return at(characters.natural, cls);
             case 5: return at(closing.numbers, least * NUMBERS);
             default: return at(closing.numbers, least * NUMBERS + 1);
         }
@@ -381,11 +384,6 @@ public final class DoubleTurns {
         }
     }
 
-    private int naturalOf(int cls) {
-        needCharacters();
-        return at(characters.natural, cls);
-    }
-
     private void askHalf(int from, int a, int b, int c, int d) {
         if (from >= 0 && from + 3 < asked.length) {
             asked[from] = a;
@@ -423,8 +421,8 @@ public final class DoubleTurns {
             return;
         }
         characters.begin(group, closing);
-        splitting.begin(group, characters.field);
-        for (int cls = 1; cls < group.classes; cls++) {
+        splitting.begin(group);
+        for (int cls = 1; cls < splitting.count; cls++) {
             splitting.splitBy(cls);
         }
         characters.take(splitting.rows);
@@ -766,10 +764,10 @@ public final class DoubleTurns {
         }
 
         private boolean isSame(int from, int[] turn) {
-            if (!holdsTurn(numbers, from)) {
+            if (from < 0 || from + NUMBERS > numbers.length || turn.length < NUMBERS) {
                 return false;
             }
-            for (int i = 0; i < NUMBERS && i < turn.length; i++) {
+            for (int i = 0; i < NUMBERS; i++) {
                 if (numbers[from + i] != turn[i]) {
                     return false;
                 }
@@ -1137,14 +1135,17 @@ public final class DoubleTurns {
         final int[] equation = new int[MOST_CLASSES + 1];
         // Rows of one space stand side by side; how many stands at the first one, 0 at the others.
         final int[] spaces = new int[MOST_CLASSES];
-        Field field;
+        final Field field;
         int count;
         int from;
         int size;
         int placed;
 
-        void begin(Group group, Field by) {
-            field = by;
+        Splitting(Field field) {
+            this.field = field;
+        }
+
+        void begin(Group group) {
             count = Math.min(group.classes, MOST_CLASSES);
             for (int t = 0; t < count; t++) {
                 spaces[t] = t == 0 ? count : 0;
@@ -1168,7 +1169,7 @@ public final class DoubleTurns {
 
         // From the last space on, as new ones come behind the one that is split.
         void splitBy(int cls) {
-            for (int t = count - 1; t >= 0 && field != null; t--) {
+            for (int t = count - 1; t >= 0; t--) {
                 if (spaces[t] > 1 && t + spaces[t] <= count) {
                     from = t;
                     size = spaces[t];
@@ -1518,8 +1519,8 @@ public final class DoubleTurns {
 
     /** The rows of powers, modulo the prime and exactly. */
     private static final class Powers {
-        int[] current = new int[MOST_CLASSES];
-        int[] before = new int[MOST_CLASSES];
+        final int[] current = new int[MOST_CLASSES];
+        final int[] before = new int[MOST_CLASSES];
 
         int oftenInRow(Characters characters, int character, int k) {
             begin(characters.count);

@@ -130,7 +130,7 @@ final class GroupCheck {
         for (int i = 0; i < (all ? m.size() * m.size() : 900); i++) {
             int k = all ? i / m.size() : random.nextInt(m.size());
             int l = all ? i % m.size() : random.nextInt(m.size());
-            due("product " + k + " " + l, x().product(k, l), m.products[k][l]);
+            due("product " + k + " " + l, x().product(k, l), m.product(k, l));
         }
         for (int i = 0; i < 60; i++) {
             int k = random.nextInt(m.size());
@@ -138,7 +138,7 @@ final class GroupCheck {
             int by = n < 0 ? m.inverse(k) : k;
             int want = 0;
             for (int j = 0; j < Math.abs(n); j++) {
-                want = m.products[want][by];
+                want = m.product(want, by);
             }
             due("power " + k + " " + n, x().power(k, n), want);
         }

@@ -13,7 +13,7 @@ final class Model {
     final List<List<Integer>> told;
     final List<List<Integer>> elements = new ArrayList<>();
     final int[] why = new int[4];
-    int[][] products;
+    private int[][] products;
 
     /** Closed just if why[0] is 0. */
     Model(int d, List<int[]> turns) {
@@ -23,14 +23,17 @@ final class Model {
             told.add(listOf(t));
         }
         close();
-        if (why[0] == 0) {
+    }
+
+    int product(int k, int l) {
+        if (products == null) {
             products = new int[size()][size()];
-            for (int k = 0; k < size(); k++) {
-                for (int l = 0; l < size(); l++) {
-                    products[k][l] = elements.indexOf(times(elements.get(k), elements.get(l)));
-                }
+            for (int i = 0; i < size() * size(); i++) {
+                products[i / size()][i % size()] = elements.indexOf(
+                        times(elements.get(i / size()), elements.get(i % size())));
             }
         }
+        return products[k][l];
     }
 
     static List<Integer> listOf(int[] t) {
@@ -124,7 +127,7 @@ final class Model {
 
     int inverse(int k) {
         for (int l = 0; l < size(); l++) {
-            if (products[k][l] == 0) {
+            if (product(k, l) == 0) {
                 return l;
             }
         }
@@ -133,7 +136,7 @@ final class Model {
 
     int order(int k) {
         int n = 1;
-        for (int p = k; p != 0; p = products[p][k]) {
+        for (int p = k; p != 0; p = product(p, k)) {
             n++;
         }
         return n;
@@ -162,7 +165,7 @@ final class Model {
             if (!seen.contains(g)) {
                 Set<Integer> cls = new TreeSet<>();
                 for (int h = 0; h < size(); h++) {
-                    cls.add(products[products[inverse(h)][g]][h]);
+                    cls.add(product(product(inverse(h), g), h));
                 }
                 seen.addAll(cls);
                 classes.add(cls);
@@ -205,7 +208,7 @@ final class Model {
                     Set<Integer> turn = new TreeSet<>();
                     turn.add(l);
                     if (minus() != NONE) {
-                        turn.add(products[minus()][l]);
+                        turn.add(product(minus(), l));
                     }
                     about.add(turn);
                 }
@@ -251,7 +254,7 @@ final class Model {
         int couples = 0;
         for (int x : i) {
             for (int y : j) {
-                if (products[x][y] == product) {
+                if (product(x, y) == product) {
                     couples++;
                 }
             }
@@ -265,7 +268,7 @@ final class Model {
             Set<Integer> more = new TreeSet<>(made);
             for (int x : made) {
                 for (int y : made) {
-                    more.add(products[x][y]);
+                    more.add(product(x, y));
                 }
             }
             grows = more.size() > made.size();
@@ -277,7 +280,7 @@ final class Model {
     boolean isKept(Set<Integer> group) {
         for (int g : group) {
             for (int h = 0; h < size(); h++) {
-                if (!group.contains(products[products[inverse(h)][g]][h])) {
+                if (!group.contains(product(product(inverse(h), g), h))) {
                     return false;
                 }
             }
