@@ -1216,8 +1216,9 @@ public final class DoubleTurns {
             return 0;
         }
 
-        // The equation that the table's stretches solve, by Leverrier's way: the
-        // sums go on as table times sums, with the new coefficient on the diagonal.
+        // The equation that the table's stretches solve, so that the space is cleared
+        // for these alone; by Leverrier's way: the sums go on as table times sums,
+        // with the new coefficient on the diagonal.
         private void fillEquation() {
             for (int t = 0; t < size; t++) {
                 for (int s = 0; s < size; s++) {

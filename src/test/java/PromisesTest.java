@@ -190,6 +190,12 @@ public final class PromisesTest {
         place("root 4294967298;", -8, 5);
         place("root 2 turn", -9, 7);
         place("root 2;turns 4", -9, 7);
+        place("rootz 2;", -9, 0);
+        place("roota2;", -9, 0);
+        place("root`2;", -9, 4);
+        place("root{2;", -9, 4);
+        place("root 2;turn/", -9, 11);
+        place("root 2:", -9, 6);
         place("root 2; 4", -9, 8);
         place("root 2;;", -9, 7);
         place("root 2;turn 4 0 0 0 0 0 0;", -9, 25);

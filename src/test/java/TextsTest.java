@@ -5,7 +5,7 @@ import java.util.Random;
 /** Texts, right and wrong in each place, against a reader by tokens. */
 public final class TextsTest {
     private static final String[] PIECES = {" ", "  ", ";", "-", "0", "1", "2", "3", "4", "5", "9", "12", "00", "turn",
-        "root", "tur", "turns", "Root", "x", "\u0000", "\u00e9", "\t", "99999999999999999999", "- 4", "-5", "turn 4 0 0 0 0 0 0 0;"};
+        "root", "tur", "turns", "Root", "x", "a", "z", "`", "{", "/", ":", "\u0000", "\u00e9", "\t", "99999999999999999999", "- 4", "-5", "turn 4 0 0 0 0 0 0 0;"};
 
     public static void main(String[] args) {
         Random random = new Random(4711);
