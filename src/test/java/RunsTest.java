@@ -148,7 +148,7 @@ public final class RunsTest {
 
     private void add(String where) {
         why = new int[4];
-        int[] t = Turns.any(d, random).clone();
+        int[] t = Turns.any(d, random);
         if (random.nextInt(3) == 0 && m.size() > 1) {
             List<Integer> e = m.elements.get(random.nextInt(m.size()));
             for (int i = 0; i < 8; i++) {
@@ -213,7 +213,7 @@ public final class RunsTest {
         Check.due(where + "told turns", x.told(1), told.size());
         Check.due(where + "acts", x.told(14), past.size());
         Check.due(where + "bytes", x.told(15), tape.length());
-        int[] t = Turns.any(d, random).clone();
+        int[] t = Turns.any(d, random);
         t[0] = random.nextInt(4) == 0 ? wild() : t[0];
         Check.due(where + "find", Texts.find(x, t), m.elements.indexOf(Model.listOf(t)));
     }

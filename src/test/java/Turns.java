@@ -49,7 +49,7 @@ final class Turns {
 
     static int[] any(int d, Random random) {
         List<int[]> all = all(d);
-        return all.get(random.nextInt(all.size()));
+        return all.get(random.nextInt(all.size())).clone();
     }
 
     /** Up to four turns that close, drawn until a try of each more one has failed often enough. */
