@@ -22,11 +22,7 @@ final class GroupCheck {
 
     GroupCheck(int d, List<int[]> turns, Random random) {
         this.random = random;
-        StringBuilder told = new StringBuilder("root " + d + ";");
-        for (int[] t : turns) {
-            told.append(Texts.turn(t));
-        }
-        text = told.toString();
+        text = Texts.of(d, turns.toArray(new int[0][]));
         m = new Model(d, turns);
         classes = m.classes();
         classOf = new int[m.size()];

@@ -4,17 +4,7 @@ import java.util.Random;
 import java.util.Set;
 
 /** All answers of many groups, hand-picked and drawn, against the document's terms reckoned slowly. */
-public final class GroupsTest {
-    private static final int[] I = {0, 0, 4, 0, 0, 0, 0, 0};
-    private static final int[] J = {0, 0, 0, 0, 4, 0, 0, 0};
-    private static final int[] ONE = {4, 0, 0, 0, 0, 0, 0, 0};
-    private static final int[] MINUS = {-4, 0, 0, 0, 0, 0, 0, 0};
-    private static final int[] THIRD = {2, 0, 2, 0, 2, 0, 2, 0};
-    private static final int[] ODD_THIRD = {-2, 0, 2, 0, 2, 0, 2, 0};
-    private static final int[] EIGHTH = {0, 2, 0, 2, 0, 0, 0, 0};
-    private static final int[] TWELFTH = {0, 2, 2, 0, 0, 0, 0, 0};
-    private static final int[] FIFTH = {-1, 1, 2, 0, 1, 1, 0, 0};
-
+public final class GroupsTest extends Samples {
     public static void main(String[] args) {
         Random random = new Random(20261120);
         List<List<int[]>> twos = List.of(List.of(), List.of(ONE), List.of(MINUS), List.of(ODD_THIRD), List.of(I),

@@ -1,3 +1,10 @@
+import com.sun.source.tree.CompilationUnitTree;
+import com.sun.source.tree.MethodInvocationTree;
+import com.sun.source.tree.MethodTree;
+import com.sun.source.tree.NewClassTree;
+import com.sun.source.util.JavacTask;
+import com.sun.source.util.TreePathScanner;
+import com.sun.source.util.Trees;
 import java.io.IOException;
 import java.lang.reflect.Constructor;
 import java.lang.reflect.Field;
@@ -7,11 +14,18 @@ import java.nio.file.Files;
 import java.nio.file.Path;
 import java.util.ArrayList;
 import java.util.Arrays;
+import java.util.LinkedHashMap;
+import java.util.LinkedHashSet;
 import java.util.List;
+import java.util.Map;
 import java.util.Set;
 import java.util.TreeSet;
 import java.util.regex.Matcher;
 import java.util.regex.Pattern;
+import javax.lang.model.element.Element;
+import javax.tools.JavaCompiler;
+import javax.tools.StandardJavaFileManager;
+import javax.tools.ToolProvider;
 
 /** The face as the document writes it, and those rules of LANGUAGE.md that can be looked up. */
 public final class LanguageTest {
@@ -23,11 +37,14 @@ public final class LanguageTest {
         "int made 3 N A", "boolean isMade 3 N", "boolean isKept 2 N", "int ofOrder 2 A", "int makers 1 A",
         "long print 0", "int status 1",
     };
-    private static final String[] BANNED = {"->", "::", "\\bfinally\\b", "\\bsynchronized\\b", "\\bassert\\b", "\\btry\\b",
-        "\\bcatch\\b", "Exact\\(", "getMessage", "System\\.(?!arraycopy)", "Math\\.(?!max\\(|min\\(|abs\\(|floorMod\\(|floorDiv\\()",
-        "\\bRandom\\b", "\\bThread\\b", "\\brecord\\b", "\\bpackage\\b", "\\bdouble\\b", "\\bfloat\\b",
-        "\\bextends\\b", "\\bnew Object\\b", "hashCode", "toString", "\\bwhile \\(true\\)", "for \\(;;\\)",
-        "\\bthrow (?!new (IllegalStateException|IllegalArgumentException|NoSuchElementException)\\()"};
+    private static final String[] BANNED = {"->", "::", "\\bfinally\\b", "\\bsynchronized\\b", "\\bassert\\b", "Exact\\(",
+        "getMessage", "System\\.(?!arraycopy)", "Math\\.(?!max\\(|min\\(|abs\\(|floorMod\\(|floorDiv\\()", "\\bRandom\\b",
+        "\\bThread\\b", "\\bpackage\\b", "\\bnew Object\\b", "hashCode", "\\bwhile \\(true\\)", "for \\(;;\\)",
+        "\\bthrow (?!new (IllegalState|IllegalArgument|NoSuchElement|IndexOutOfBounds|UnsupportedOperation|Arithmetic|Runtime)"
+            + "Exception\\()",
+        "\\bcatch \\((?!(IllegalState|IllegalArgument|NoSuchElement|UnsupportedOperation)Exception )"};
+    /** Rule 11: as deep as calls that are no recursion may go. */
+    private static final int MOST_DEEP = 8;
 
     public static void main(String[] args) throws IOException {
         String source = Files.readString(Path.of("src/main/java/DoubleTurns.java"));
@@ -35,6 +52,7 @@ public final class LanguageTest {
         members();
         words(source);
         methods(source);
+        depths(Path.of("src/main/java/DoubleTurns.java"));
         Check.end("LanguageTest");
     }
 
@@ -128,6 +146,68 @@ public final class LanguageTest {
                 }
                 holds("rule 11: a short method at line " + (i + 1), end - i <= 60);
             }
+        }
+    }
+
+    private static void depths(Path source) throws IOException {
+        JavaCompiler compiler = ToolProvider.getSystemJavaCompiler();
+        StandardJavaFileManager files = compiler.getStandardFileManager(null, null, null);
+        JavacTask task = (JavacTask) compiler.getTask(null, files, null, List.of("-proc:none"), null,
+                files.getJavaFileObjects(source));
+        Calls calls = new Calls(Trees.instance(task));
+        Iterable<? extends CompilationUnitTree> units = task.parse();
+        task.analyze();
+        calls.scan(units, null);
+        for (Element method : calls.made.keySet()) {
+            int depth = calls.depth(method, 0);
+            Check.due("rule 11: " + method + " goes " + depth + " deep", depth <= MOST_DEEP, true);
+        }
+        holds("calls are found", calls.made.size() > 100);
+    }
+
+    /** Which methods and constructors of the program each of them calls. */
+    private static final class Calls extends TreePathScanner<Void, Element> {
+        final Map<Element, Set<Element>> made = new LinkedHashMap<>();
+        private final Trees trees;
+
+        Calls(Trees trees) {
+            this.trees = trees;
+        }
+
+        @Override
+        public Void visitMethod(MethodTree method, Element around) {
+            Element self = trees.getElement(getCurrentPath());
+            made.put(self, new LinkedHashSet<>());
+            return super.visitMethod(method, self);
+        }
+
+        @Override
+        public Void visitMethodInvocation(MethodInvocationTree call, Element caller) {
+            take(caller);
+            return super.visitMethodInvocation(call, caller);
+        }
+
+        @Override
+        public Void visitNewClass(NewClassTree call, Element caller) {
+            take(caller);
+            return super.visitNewClass(call, caller);
+        }
+
+        private void take(Element caller) {
+            if (made.containsKey(caller)) {
+                made.get(caller).add(trees.getElement(getCurrentPath()));
+            }
+        }
+
+        /** How many calls stand open at once at most; far too many for one that comes back to itself. */
+        int depth(Element method, int above) {
+            int deepest = 0;
+            for (Element called : made.getOrDefault(method, Set.of())) {
+                if (made.containsKey(called) && above <= MOST_DEEP) {
+                    deepest = Math.max(deepest, depth(called, above + 1));
+                }
+            }
+            return deepest + 1;
         }
     }
 }

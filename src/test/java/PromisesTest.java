@@ -1,16 +1,7 @@
 import java.util.List;
 
 /** Each promise of the document by hand: ordinary inputs, the edges that it names, wrong inputs. */
-public final class PromisesTest {
-    private static final int[] ONE = {4, 0, 0, 0, 0, 0, 0, 0};
-    private static final int[] MINUS = {-4, 0, 0, 0, 0, 0, 0, 0};
-    private static final int[] I = {0, 0, 4, 0, 0, 0, 0, 0};
-    private static final int[] J = {0, 0, 0, 0, 4, 0, 0, 0};
-    private static final int[] THIRD = {2, 0, 2, 0, 2, 0, 2, 0};
-    private static final int[] EIGHTH = {0, 2, 0, 2, 0, 0, 0, 0};
-    private static final int[] FIFTH = {-1, 1, 2, 0, 1, 1, 0, 0};
-    /** A turn of root 2 the square of which has no quarters: w would be 2 / 16. */
-    private static final int[] OPEN = {3, 0, 2, 0, 1, 0, 0, 1};
+public final class PromisesTest extends Samples {
     private static final int LEAST = Integer.MIN_VALUE;
     private static final int MOST = Integer.MAX_VALUE;
 
@@ -53,33 +44,6 @@ public final class PromisesTest {
 
     private static void due(String call, long got, long want) {
         Check.due(call, got, want);
-    }
-
-    private static DoubleTurns of(int root, int[]... turns) {
-        DoubleTurns x = new DoubleTurns();
-        StringBuilder text = new StringBuilder("root " + root + ";");
-        for (int[] t : turns) {
-            text.append(Texts.turn(t));
-        }
-        Texts.tell(x, text.toString());
-        return x;
-    }
-
-    /** 1, i, j, -1, k, -k, -i, -j in this order; classes 1, i, j, -1, k. */
-    private static DoubleTurns eight() {
-        return of(2, I, J);
-    }
-
-    private static DoubleTurns tetrahedral() {
-        return of(2, I, THIRD);
-    }
-
-    private static DoubleTurns octahedral() {
-        return of(2, EIGHTH, THIRD);
-    }
-
-    private static DoubleTurns icosahedral() {
-        return of(5, THIRD, FIFTH);
     }
 
     private static void newObject() {

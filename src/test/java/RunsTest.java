@@ -88,11 +88,7 @@ public final class RunsTest {
 
     private void renewTwin() {
         twin = new DoubleTurns();
-        StringBuilder text = new StringBuilder("root " + d + ";");
-        for (int[] t : told) {
-            text.append(Texts.turn(t));
-        }
-        Check.due("twin", Texts.tell(twin, text.toString()), m.size());
+        Check.due("twin", Texts.tell(twin, Texts.of(d, told.toArray(new int[0][]))), m.size());
     }
 
     private void feed(String where) {

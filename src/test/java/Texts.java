@@ -20,6 +20,14 @@ final class Texts {
         return x.text(text.length());
     }
 
+    static String of(int root, int[]... turns) {
+        StringBuilder text = new StringBuilder("root ").append(root).append(';');
+        for (int[] t : turns) {
+            text.append(turn(t));
+        }
+        return text.toString();
+    }
+
     static String turn(int[] t) {
         StringBuilder text = new StringBuilder("turn");
         for (int n : t) {
